@@ -1,246 +1,9 @@
-import java.util.ArrayList;
-import java.util.BitSet;
-import java.util.HashMap;
-import java.util.List;
-import java.util.Map;
+import java.util.Arrays;
 
 /** Holds every answer against the document's definitions, spelt out by brute force. */
 public final class DefinitionsTest {
     private static final int CALLS_OF_AN_OBJECT = 512;
     private static int wrong = 0;
-
-    /** The monoid of a list of generators, by the words of the document and without short cuts. */
-    private static final class Definition {
-        final int n;
-        final int codes;
-        final int identity;
-        final int[] generators;
-        final int[] products;
-        final BitSet elements = new BitSet();
-        final Map<Integer, List<Integer>> words = new HashMap<>();
-        final List<BitSet[]> sets = new ArrayList<>();
-
-        Definition(int n, int[] generators) {
-            this.n = n;
-            this.generators = generators;
-            int count = 1;
-            for (int i = 0; i < n; i++) {
-                count *= n;
-            }
-            codes = count;
-            products = new int[codes * codes];
-            for (int f = 0; f < codes; f++) {
-                for (int g = 0; g < codes; g++) {
-                    int[] images = new int[n];
-                    for (int p = 0; p < n; p++) {
-                        images[p] = image(g, image(f, p));
-                    }
-                    products[f * codes + g] = codeOf(images);
-                }
-            }
-            int[] points = new int[n];
-            for (int p = 0; p < n; p++) {
-                points[p] = p;
-            }
-            identity = codeOf(points);
-            findElements();
-            elements.stream().forEach(a -> words.put(a, wordOf(a)));
-            for (int kind = 0; kind < 3; kind++) {
-                sets.add(new BitSet[codes]);
-            }
-            elements.stream().forEach(this::findOneSidedSets);
-            elements.stream().forEach(this::findTwoSidedSet);
-        }
-
-        int codeOf(int[] images) {
-            StringBuilder digits = new StringBuilder();
-            for (int image : images) {
-                digits.append(image);
-            }
-            return Integer.parseInt(digits.toString(), n);
-        }
-
-        int image(int code, int p) {
-            int rest = code;
-            for (int i = n - 1; i > p; i--) {
-                rest /= n;
-            }
-            return rest % n;
-        }
-
-        int times(int f, int g) {
-            return products[f * codes + g];
-        }
-
-        void findElements() {
-            elements.set(identity);
-            int before;
-            do {
-                before = elements.cardinality();
-                for (int a = 0; a < codes; a++) {
-                    for (int g : generators) {
-                        if (elements.get(a)) {
-                            elements.set(times(a, g));
-                        }
-                    }
-                }
-            } while (elements.cardinality() > before);
-        }
-
-        /** From the target backwards which maps are how far from it; then forwards by the least number each time. */
-        List<Integer> wordOf(int target) {
-            List<BitSet> layers = new ArrayList<>();
-            BitSet layer = new BitSet();
-            layer.set(target);
-            layers.add(layer);
-            while (!layer.get(identity)) {
-                BitSet farther = new BitSet();
-                for (int a = 0; a < codes; a++) {
-                    for (int g : generators) {
-                        if (layer.get(times(a, g))) {
-                            farther.set(a);
-                        }
-                    }
-                }
-                layers.add(farther);
-                layer = farther;
-            }
-            List<Integer> word = new ArrayList<>();
-            int at = identity;
-            for (int left = layers.size() - 2; left >= 0; left--) {
-                int number = 0;
-                while (!layers.get(left).get(times(at, generators[number]))) {
-                    number++;
-                }
-                word.add(number);
-                at = times(at, generators[number]);
-            }
-            return word;
-        }
-
-        void findOneSidedSets(int a) {
-            BitSet right = new BitSet();
-            BitSet left = new BitSet();
-            elements.stream().forEach(x -> {
-                right.set(times(a, x));
-                left.set(times(x, a));
-            });
-            sets.get(0)[a] = right;
-            sets.get(1)[a] = left;
-        }
-
-        void findTwoSidedSet(int a) {
-            BitSet both = new BitSet();
-            elements.stream().forEach(x -> both.or(sets.get(0)[times(x, a)]));
-            sets.get(2)[a] = both;
-        }
-
-        boolean good(int code) {
-            return 0 <= code && code < codes;
-        }
-
-        boolean element(int code) {
-            return good(code) && elements.get(code);
-        }
-
-        int has(int code) {
-            return !good(code) ? -1 : elements.get(code) ? 1 : 0;
-        }
-
-        int product(int f, int g) {
-            return good(f) && good(g) ? times(f, g) : -1;
-        }
-
-        int elementAt(int i) {
-            int[] rising = elements.stream().toArray();
-            return 0 <= i && i < rising.length ? rising[i] : -1;
-        }
-
-        int length(int code) {
-            return !good(code) ? -1 : !elements.get(code) ? -2 : words.get(code).size();
-        }
-
-        int letter(int code, int place) {
-            int length = length(code);
-            return length < 0 ? length : place < 0 || place >= length ? -3 : words.get(code).get(place);
-        }
-
-        int longest() {
-            return elements.stream().map(this::length).max().getAsInt();
-        }
-
-        int idempotents() {
-            return (int) elements.stream().filter(e -> times(e, e) == e).count();
-        }
-
-        int units() {
-            return (int) elements.stream().filter(a -> elements.stream()
-                .anyMatch(b -> times(a, b) == identity && times(b, a) == identity)).count();
-        }
-
-        int rank(int code) {
-            if (!good(code)) {
-                return -1;
-            }
-            BitSet images = new BitSet();
-            for (int p = 0; p < n; p++) {
-                images.set(image(code, p));
-            }
-            return images.cardinality();
-        }
-
-        /** Index and period: the first power that came before, and how long before. */
-        int[] repeat(int code) {
-            List<Integer> powers = new ArrayList<>();
-            int power = code;
-            while (!powers.contains(power)) {
-                powers.add(power);
-                power = times(power, code);
-            }
-            int first = powers.indexOf(power);
-            return new int[] {first + 1, powers.size() - first};
-        }
-
-        int index(int code) {
-            return good(code) ? repeat(code)[0] : -1;
-        }
-
-        int period(int code) {
-            return good(code) ? repeat(code)[1] : -1;
-        }
-
-        int classes(int kind) {
-            if (kind < 0 || kind > 2) {
-                return -1;
-            }
-            return (int) elements.stream().mapToObj(a -> sets.get(kind)[a]).distinct().count();
-        }
-
-        int alike(int kind, int f, int g) {
-            if (kind < 0 || kind > 2) {
-                return -1;
-            }
-            if (!element(f) || !element(g)) {
-                return -2;
-            }
-            return sets.get(kind)[f].equals(sets.get(kind)[g]) ? 1 : 0;
-        }
-
-        int ideal(int kind, int code) {
-            return kind < 0 || kind > 2 ? -1 : !element(code) ? -2 : sets.get(kind)[code].cardinality();
-        }
-
-        int kernel() {
-            BitSet inAll = (BitSet) elements.clone();
-            elements.stream().forEach(a -> inAll.and(sets.get(2)[a]));
-            return inAll.cardinality();
-        }
-
-        int commutes() {
-            return elements.stream().allMatch(a -> elements.stream()
-                .allMatch(b -> times(a, b) == times(b, a))) ? 1 : 0;
-        }
-    }
 
     /** Numbers that look mixed and are the same every time. */
     private static final class Mixed {
@@ -281,14 +44,14 @@ public final class DefinitionsTest {
     private static void due(Definition want, String call, int got, int answer) {
         if (got != answer) {
             wrong++;
-            System.out.println(want.n + " points, generators " + java.util.Arrays.toString(want.generators)
+            System.out.println(want.n + " points, generators " + Arrays.toString(want.generators)
                 + ": " + call + " answered " + got + ", due is " + answer);
         }
     }
 
     private void askAboutTheMonoid() {
         due(want, "points()", x().points(), want.n);
-        due(want, "size()", x().size(), want.elements.cardinality());
+        due(want, "size()", x().size(), want.size());
         due(want, "longest()", x().longest(), want.longest());
         due(want, "idempotents()", x().idempotents(), want.idempotents());
         due(want, "units()", x().units(), want.units());
@@ -381,32 +144,24 @@ public final class DefinitionsTest {
             int kind = mixed.below(5) - 1;
             int f = mixed.below(want.codes + 4) - 2;
             int g = mixed.below(want.codes + 4) - 2;
-            int count = want.generators.length;
             // A member now and then, or the questions of a small monoid would mostly meet none.
             if (mixed.below(2) == 0) {
-                f = want.elementAt(mixed.below(want.elements.cardinality()));
-                g = want.elementAt(mixed.below(want.elements.cardinality()));
+                f = want.elementAt(mixed.below(want.size()));
+                g = want.elementAt(mixed.below(want.size()));
             }
             String what = "call " + call + " of run " + seed + " with " + kind + ", " + f + ", " + g;
             switch (mixed.below(22)) {
                 case 0: case 1:
-                    int number = !want.good(f) ? -1 : count == 4 ? -2 : count;
-                    due(want, what + ", generate", x.generate(f), number);
-                    if (number >= 0) {
-                        int[] longer = java.util.Arrays.copyOf(want.generators, count + 1);
-                        longer[count] = f;
-                        want = new Definition(n, longer);
-                    }
+                    due(want, what + ", generate", x.generate(f), want.generate(f));
+                    want = want.generate(f) >= 0 ? want.withLast(f) : want;
                     break;
                 case 2:
-                    due(want, what + ", drop", x.drop(), count == 0 ? -1 : want.generators[count - 1]);
-                    if (count > 0) {
-                        want = new Definition(n, java.util.Arrays.copyOf(want.generators, count - 1));
-                    }
+                    due(want, what + ", drop", x.drop(), want.drop());
+                    want = want.drop() >= 0 ? want.withoutLast() : want;
                     break;
                 case 3: due(want, what + ", points", x.points(), n); break;
                 case 4: due(want, what + ", product", x.product(f, g), want.product(f, g)); break;
-                case 5: due(want, what + ", size", x.size(), want.elements.cardinality()); break;
+                case 5: due(want, what + ", size", x.size(), want.size()); break;
                 case 6: due(want, what + ", has", x.has(f), want.has(f)); break;
                 case 7: due(want, what + ", element", x.element(f), want.elementAt(f)); break;
                 case 8: due(want, what + ", length", x.length(f), want.length(f)); break;

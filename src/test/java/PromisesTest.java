@@ -1,52 +1,5 @@
 /** For each promise: ordinary inputs, the edges that the document names, and wrong inputs, worked out by hand. */
-public final class PromisesTest {
-    private static final int MIN = Integer.MIN_VALUE;
-    private static final int MAX = Integer.MAX_VALUE;
-    private static int wrong = 0;
-
-    private static void due(String call, int got, int want) {
-        if (got != want) {
-            wrong++;
-            System.out.println(call + " answered " + got + ", due is " + want);
-        }
-    }
-
-    /** The code of the map with these images: as many points as there are images. */
-    private static int map(int... images) {
-        int code = 0;
-        for (int image : images) {
-            code = code * images.length + image;
-        }
-        return code;
-    }
-
-    private static TransformMonoid made(int points, int... generators) {
-        TransformMonoid x = new TransformMonoid(points);
-        for (int i = 0; i < generators.length; i++) {
-            due("generate(" + generators[i] + ") while making", x.generate(generators[i]), i);
-        }
-        return x;
-    }
-
-    /** All maps of n points. */
-    private static TransformMonoid full(int n) {
-        switch (n) {
-            case 2: return made(2, map(1, 0), map(0, 0));
-            case 3: return made(3, map(1, 2, 0), map(0, 2, 1), map(0, 1, 1));
-            default: return made(4, map(1, 2, 3, 0), map(1, 0, 2, 3), map(0, 0, 2, 3));
-        }
-    }
-
-    /** The identity and the maps of 2 points that send both to one. */
-    private static TransformMonoid constants() {
-        return made(2, map(0, 0), map(1, 1));
-    }
-
-    /** The identity and three powers: 0012, 0001, 0000. */
-    private static TransformMonoid descent() {
-        return made(4, map(0, 0, 1, 2));
-    }
-
+public final class PromisesTest extends MonoidTest {
     private static void promise1NewObject() {
         int[] asked = {MIN, -1, 0, 1, 2, 3, 4, 5, 100, MAX};
         int[] want = {2, 2, 2, 2, 2, 3, 4, 4, 4, 4};
@@ -413,9 +366,6 @@ public final class PromisesTest {
         promise19Ideal();
         promise20Kernel();
         promise21Commutes();
-        System.out.println(wrong == 0 ? "all answers are as due" : wrong + " answers are not as due");
-        if (wrong != 0) {
-            System.exit(1);
-        }
+        end();
     }
 }
