@@ -13,7 +13,12 @@ public final class BoundariesTest extends MonoidTest {
 
     private static void boundary(String sentence, Runnable test) {
         int before = wrongSoFar();
-        test.run();
+        try {
+            test.run();
+        } catch (RuntimeException thrown) {
+            // No call may throw; the other cases are to be heard all the same.
+            wrong("a call threw " + thrown);
+        }
         if (wrongSoFar() == before) {
             held++;
         } else {

@@ -6,9 +6,13 @@ abstract class MonoidTest {
 
     static void due(String call, int got, int want) {
         if (got != want) {
-            wrong++;
-            System.out.println(call + " answered " + got + ", due is " + want);
+            wrong(call + " answered " + got + ", due is " + want);
         }
+    }
+
+    static void wrong(String what) {
+        wrong++;
+        System.out.println(what);
     }
 
     static int wrongSoFar() {
